@@ -178,6 +178,13 @@ public final class PromisesTest {
     faultIs(R + P + "person stride 1 weight 1 worth 5 hand 0 back;", 1, 93);
     faultIs(R + P + "person stride 1 weight 1 worth 5 hand;", 1, 90);
     faultIs(R + "planks 3;", 1, 20);
+    faultIs(R + "plank3;", 0, -1);
+    faultIs(R + "stone at 0 1 bears 1 doubtz 5;", 1, 41);
+    faultIs(R + "stone at 0 1 bears 1 adoubt 5;", 1, 41);
+    faultIs(R + "stone at 0 1 bears 1`", 1, 40);
+    faultIs(R + "stone at 0 1 bears 1{", 1, 40);
+    faultIs(R + "stone at 0 1 bears 1/", 1, 40);
+    faultIs(R + "stone at 0 1 bears 1:", 1, 40);
     faultIs(R + "at 3;", 1, 20);
   }
 
@@ -215,6 +222,7 @@ public final class PromisesTest {
     faultIs(R + P + P + "person stride 1 weight 1 worth 5 hand 1;person stride 1 weight 1 worth 5 hand 2;", 2, 164);
     faultIs(R + P + P + "person stride 1 weight 1 worth 5 hand 1;person stride 1 weight 1 worth 5 hand 0;", 0, -1);
     faultIs(R + "plank 0;", 2, 26);
+    faultIs(R + "plank 1;", 0, -1);
     faultIs(R + "plank 10;", 2, 26);
     faultIs(R + "plank 9;plank 9;", 2, 28);
   }
@@ -229,6 +237,7 @@ public final class PromisesTest {
     String wide = "river wide 9 long 5;";
     faultIs(wide + stones(4, " bears 2 doubt 9"), 0, -1);
     faultIs(wide + stones(5, " bears 2 doubt 9"), 2, 20 + 4 * 29 + 21);
+    faultIs(wide + "stone at 4 8 bears 2;" + stones(4, " bears 2 doubt 9") + "stone at 3 8 bears 2;", 0, -1);
     faultIs(wide + stones(24, " bears 2"), 0, -1);
     faultIs(wide + stones(25, " bears 2"), 3, 20 + 24 * 21);
     faultIs(wide + stones(24, " bears 2") + "stone", 3, 20 + 24 * 21);
@@ -470,6 +479,10 @@ public final class PromisesTest {
     due(x.judge(0), 4, "judge of four STEPS and one number left over");
     due(x.person(0, 0), 98, "in thought");
     due(x.stone(0, 3), 0, "in thought");
+    write(x, 0, 0, 0, 0, 0);
+    due(x.judge(0), 1, "judge of one STEP and one number left over, which with a 0 behind it would be one");
+    write(x, 0, 0, 0, 0, 0, 1, 0, 0, 0);
+    due(x.judge(0), 3, "judge of three STEPS and one number left over");
     write(x, 0, 0, 2, 0, 0, 0, 0, 1);
     due(x.judge(0), 1, "judge where the second is not borne");
     write(x, 1, 3, 0, 0, 4294967296L, 1);
@@ -575,6 +588,7 @@ public final class PromisesTest {
     pair.step(1, 99);
     due(pair.over(2, 3), 0, "both are at 99");
     due(Told.of("river wide 2 long 1;").over(0, 0), 0, "nobody");
+    due(Told.of("river wide 2 long 1;person stride 2 weight 1 worth 1;").over(0, 0), 1, "one who needs no STONE");
   }
 
   private static void all() {
@@ -630,6 +644,15 @@ public final class PromisesTest {
         + "person stride 2 weight 1 worth 1;person stride 2 weight 1 worth 2;person stride 2 weight 1 worth 3;");
     orderIs(shy, 0, 5, 0, 1, 2, 0);
     orderIs(Told.of("river wide 2 long 1;"), 0, 0, 0);
+    // Of equal worth, but not of equal weight, stride or must: who is lighter goes ahead.
+    String two = "river wide 2 long 1;stone at 0 1 bears 2;";
+    orderIs(Told.of(two + "person stride 1 weight 2 worth 5;" + people(2, "person stride 1 weight 1 worth 5;")), 0, 10, 0, 1, 0, 2);
+    orderIs(Told.of(two + people(2, "person stride 1 weight 1 worth 5;") + "person stride 1 weight 1 worth 5 must;"), 0, 10, 1, 0, 2, 1);
+    // By 0 goes who can't go by 1, if he goes first.
+    orderIs(Told.of("river wide 3 long 9;stone at 0 2 bears 1;stone at 0 1 bears 1;stone at 7 1 bears 1;"
+        + "person stride 2 weight 1 worth 5;person stride 1 weight 1 worth 5;"), 0, 10, 0, 1, 0);
+    // One who can go without STONES takes nothing.
+    orderIs(Told.of("river wide 2 long 1;stone at 0 1 bears 1;person stride 2 weight 3 worth 5;person stride 1 weight 1 worth 5;"), 1, 10, 0, 0, 1);
   }
 
   private static void gap() {
@@ -982,6 +1005,10 @@ public final class PromisesTest {
     due(x.price(1, 2, 0), 1, "price(1, 2, 0): the way by 1");
     due(x.price(1, 2, 3), 0, "price(1, 2, 3): the way by 4");
     due(x.price(4, 1, 0), 0, "price(4, 1, 0) of 999");
+    // The doctor (stride 1) goes by the least row from 98, 1 3, not by 2 0 (which is less from 99) and so leaves 0 its all.
+    BearsTwo tie = Told.of("river wide 3 long 9;stone at 8 2 bears 1;stone at 0 1 bears 9;stone at 8 1 bears 9;stone at 0 2 bears 9;");
+    due(tie.price(1, 1, 0), 1, "price by 1 3");
+    due(tie.late(1, 0), 10, "ten in all");
     due(x.price(1, 4, 0), 0, "price(1, 4, 0): no STONE is kept");
     int[][] wrongOnes = {{0, 1, 0}, {10, 1, 0}, {1, 0, 0}, {1, 10, 0}, {1, 1, 4}, {1, 1, -1}};
     for (int[] w : wrongOnes) due(x.price(w[0], w[1], w[2]), -2, "price of none such");
@@ -1126,6 +1153,7 @@ public final class PromisesTest {
         + "person stride 1 weight 1 worth 1;person stride 1 weight 2 worth 1;person stride 2 weight 1 worth 1;");
     // 0 gets over; 1 goes in at STONE 1 (by 0, which has borne 3 then and is of no use to anyone); 2 has no WAY.
     due(z.run(0, 0), 1, "what is ahead of it has borne it");
+    due(Told.of("river wide 2 long 1;person stride 2 weight 1 worth 1;").run(0, 0), 1, "one who needs no STONE");
     // Weight 2 goes in at once.
     BearsTwo heavy = Told.of("river wide 2 long 1;stone at 0 1 bears 9 doubt 99;person stride 1 weight 2 worth 1;person stride 1 weight 1 worth 1;");
     due(heavy.run(0, 0), 0, "weight 2 is more than one; LEFT is 0 from then on");
