@@ -1224,7 +1224,7 @@ public final class BearsTwo {
                 putReached(scene.told, scene.openFor(1));
             }
             putCosts(scene, way);
-            spread(stride, open, goal & open);
+            spread(stride, open, begin, goal & open);
             walk(stride, open, begin & open);
             return size == 0 ? NONE : size;
         }
@@ -1262,17 +1262,20 @@ public final class BearsTwo {
             return people;
         }
 
-        /** What it costs from each open STONE (itself too) to the goal bank. */
-        private void spread(int stride, int open, int goal) {
+        /**
+         * What it costs from open STONES (themselves too) to the goal bank, the cheapest first. Those that come behind
+         * the first one of the other bank cost no less than it, and no row that is sought has them behind another.
+         */
+        private void spread(int stride, int open, int begin, int goal) {
             Arrays.fill(tail, ENDLESS);
             for (int rest = goal; rest != 0; rest &= rest - 1) {
-                int s = Integer.numberOfTrailingZeros(rest);
-                tail[s] = cost[s];
+                int v = Integer.numberOfTrailingZeros(rest);
+                tail[v] = cost[v];
             }
             int seen = goal;
             int todo = open;
-            for (int k = 0; k < STONES && (seen & todo) != 0; k++) {
-                int s = least(seen & todo);
+            int s = least(goal);
+            for (int k = 0; k < STONES && s != NONE && (begin >> s & 1) == 0; k++) {
                 todo &= ~(1 << s);
                 int come = links.next[stride * STONES + s] & todo;
                 seen |= come;
@@ -1280,16 +1283,19 @@ public final class BearsTwo {
                     int v = Integer.numberOfTrailingZeros(rest);
                     tail[v] = Math.min(tail[v], tail[s] + cost[v]);
                 }
+                s = least(seen & todo);
             }
         }
 
-        /** Of these STONES (one at least) the one of the least tail, the first of several. */
+        /** Of these STONES the one of the least tail, the first of several; NONE: from none one comes to the goal. */
         private int least(int stones) {
-            int best = Integer.numberOfTrailingZeros(stones);
-            for (int rest = stones & stones - 1; rest != 0; rest &= rest - 1) {
+            int best = NONE;
+            int bestTail = ENDLESS;
+            for (int rest = stones; rest != 0; rest &= rest - 1) {
                 int s = Integer.numberOfTrailingZeros(rest);
-                if (tail[s] < tail[best]) {
+                if (tail[s] < bestTail) {
                     best = s;
+                    bestTail = tail[s];
                 }
             }
             return best;
@@ -1298,15 +1304,10 @@ public final class BearsTwo {
         /** From STONE to STONE by the least tail, which makes the row the least one too. */
         private void walk(int stride, int open, int begin) {
             int s = least(begin);
-            if (tail[s] >= ENDLESS) {
-                return;
-            }
-            row[0] = s;
-            size = 1;
-            while (size < STONES && tail[s] > cost[s]) {
-                s = least(links.next[stride * STONES + s] & open);
+            while (s != NONE && size < STONES) {
                 row[size] = s;
                 size++;
+                s = tail[s] > cost[s] ? least(links.next[stride * STONES + s] & open) : NONE;
             }
         }
 
