@@ -85,6 +85,31 @@ public final class CrossCheckTest {
       for (int what = 0; what < 3; what++) due("person " + p + " " + what, x.person(p, what), m.person(p, what));
   }
 
+  /** Flows alone, where they are hardest. */
+  private void runDeep() {
+    tell(rivers.deep());
+    for (int a = 1; a <= 3; a++) {
+      int n = m.w.stones.size();
+      for (int weight = 1; weight <= 2; weight++) {
+        due("most(" + a + ", " + weight + ")", x.most(a, weight), m.most(a, weight));
+        due("cut(" + a + ", " + weight + ")", x.cut(a, weight), m.cut(a, weight));
+      }
+      for (int b = 1; b <= 3; b += 2) due("where(" + b + ", " + a + ")", x.where(b, a), m.where(b, a));
+      due("planks(" + a + ")", x.planks(a), m.planks(a));
+      for (int way = 0; way < 4; way++) {
+        due("alike(" + a + ", 1, " + way + ")", x.alike(a, 1, way), m.alike(a, 1, way));
+        due("price(" + a + ", " + a + ", " + way + ")", x.price(a, a, way), m.price(a, a, way));
+      }
+      for (int k = 0; k < 4; k++) {
+        int s = in(0, n - 1), t = in(0, n - 1), at = in(0, m.w.len - 1), y = in(1, m.w.wide - 1);
+        due("bars(" + s + ", " + a + ", 1)", x.bars(s, a, 1), m.bars(s, a, 1));
+        due("move(" + s + ", " + a + ")", x.move(s, a), m.move(s, a));
+        due("more(" + at + ", " + y + ", 2, " + a + ")", x.more(at, y, 2, a), m.more(at, y, 2, a));
+        due("plank(" + s + ", " + t + ", " + a + ")", x.plank(s, t, a), m.plank(s, t, a));
+      }
+    }
+  }
+
   private void draw() {
     int s = near(0, m.w.stones.size() - 1), p = near(0, m.w.people.size() - 1), way = near(0, 3), a = stride();
     int weight = one(2) ? 1 : near(1, 6), slot = near(0, 3), other = near(0, 3), what;
@@ -181,7 +206,9 @@ public final class CrossCheckTest {
       int[] sizes = {6, 8, 8, 12, 24};
       CrossCheckTest test = new CrossCheckTest(seed, sizes[seed % sizes.length]);
       test.run();
-      all += test.calls;
+      CrossCheckTest deep = new CrossCheckTest(seed, 24);
+      deep.runDeep();
+      all += test.calls + deep.calls;
     }
     System.out.println(wrong == 0 ? all + " answers are as the model's" : wrong + " answers are not as the model's");
     if (wrong != 0) System.exit(1);

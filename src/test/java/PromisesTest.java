@@ -163,6 +163,8 @@ public final class PromisesTest {
     faultIs("plank 3;" + R, 1, 0);
     faultIs("rivers wide 5 long 5;", 1, 0);
     faultIs("riverwide 5 long 5;", 1, 0);
+    faultIs("diver wide 5 long 5;", 1, 0);
+    faultIs("rivet wide 5 long 5;", 1, 0);
     faultIs("River wide 5 long 5;", 1, 0);
     faultIs("river long 5 wide 5;", 1, 6);
     faultIs("river wide wide 5;", 1, 11);
@@ -238,6 +240,8 @@ public final class PromisesTest {
     faultIs(wide + stones(4, " bears 2 doubt 9"), 0, -1);
     faultIs(wide + stones(5, " bears 2 doubt 9"), 2, 20 + 4 * 29 + 21);
     faultIs(wide + "stone at 4 8 bears 2;" + stones(4, " bears 2 doubt 9") + "stone at 3 8 bears 2;", 0, -1);
+    faultIs(wide + stones(4, " bears 2 doubt 1"), 0, -1);
+    faultIs(wide + stones(5, " bears 2 doubt 1"), 2, 20 + 4 * 29 + 21);
     faultIs(wide + stones(24, " bears 2"), 0, -1);
     faultIs(wide + stones(25, " bears 2"), 3, 20 + 24 * 21);
     faultIs(wide + stones(24, " bears 2") + "stone", 3, 20 + 24 * 21);
@@ -311,6 +315,7 @@ public final class PromisesTest {
     for (int[] w : want) due(x.may(w[0], w[1], w[2]), w[3], "may(" + w[0] + ", " + w[1] + ", " + w[2] + ")");
     x.hour(20);
     due(x.may(98, 4, 2), 1, "may of a STONE that is under");
+    due(Told.of("river wide 9 long 1;").may(98, 99, 9), 1, "may without STONES");
   }
 
   private static void reach() {
@@ -414,6 +419,8 @@ public final class PromisesTest {
         + people(3, "person stride 1 weight 1 worth 0;"));
     rowIs(z, 2, 1, 0, 0);
     rowIs(z, 2, 1, 1, 1);
+    BearsTwo lone = Told.of("river wide 3 long 9;stone at 0 1 bears 1;stone at 4 2 bears 1;person stride 1 weight 1 worth 0;");
+    rowIs(lone, 2, 1, 1, 1);
     // 2 is in reach of two (3), 0 and 1 of nobody (2 together): two STONES are less than one.
     BearsTwo t = Told.of("river wide 6 long 9;stone at 0 2 bears 1;stone at 0 4 bears 1;stone at 8 3 bears 1;stone at 8 2 bears 1;stone at 8 1 bears 1;"
         + people(2, "person stride 1 weight 1 worth 0;"));
@@ -651,6 +658,26 @@ public final class PromisesTest {
     // By 0 goes who can't go by 1, if he goes first.
     orderIs(Told.of("river wide 3 long 9;stone at 0 2 bears 1;stone at 0 1 bears 1;stone at 7 1 bears 1;"
         + "person stride 2 weight 1 worth 5;person stride 1 weight 1 worth 5;"), 0, 10, 0, 1, 0);
+    // What was found is not held when something has changed.
+    BearsTwo held = Told.of("river wide 2 long 1;stone at 0 1 bears 2 sinks 9 doubt 50;" + people(3, "person stride 1 weight 1 worth 5;"));
+    due(held.order(0, 0), 10, "worth at first");
+    held.know(0, true);
+    due(held.order(0, 0), 5, "worth when one is known");
+    held.step(2, 0);
+    due(held.order(0, 0), 0, "worth behind a step");
+    held.fresh();
+    due(held.order(0, 0), 5, "worth on clean STONES");
+    held.hour(9);
+    due(held.order(0, 0), 0, "worth when it is under");
+    held.hour(0);
+    held.go(1, 0);
+    due(held.order(0, 0), 0, "worth when one has gone");
+    held.fresh();
+    held.image(0);
+    held.all(0);
+    due(held.order(0, 2), -1, "nobody is there");
+    held.back(0);
+    due(held.order(0, 2), 0, "one is there again");
     // One who can go without STONES takes nothing.
     orderIs(Told.of("river wide 2 long 1;stone at 0 1 bears 1;person stride 2 weight 3 worth 5;person stride 1 weight 1 worth 5;"), 1, 10, 0, 0, 1);
   }
@@ -804,6 +831,11 @@ public final class PromisesTest {
         + "stone at 7 4 bears 1;stone at 7 6 bears 1;stone at 3 2 bears 1;stone at 3 4 bears 1;stone at 4 5 bears 1;");
     due(y.most(2, 1), 2, "two at once");
     due(y.alike(2, 1, 0), 1, "one by one");
+    // Of 0 1 4 and 0 2 3 the first is the least row from here, and bars 5 6 7 4; the second would be from there.
+    BearsTwo z = Told.of("river wide 11 long 9;stone at 5 3 bears 1;stone at 4 5 bears 1;stone at 7 5 bears 1;stone at 7 8 bears 1;"
+        + "stone at 4 8 bears 1;stone at 0 3 bears 1;stone at 0 6 bears 1;stone at 2 7 bears 1;");
+    due(z.most(3, 1), 2, "two at once");
+    due(z.alike(3, 1, 0), 1, "one by one, from here");
   }
 
   private static void more() {
@@ -1005,10 +1037,12 @@ public final class PromisesTest {
     due(x.price(1, 2, 0), 1, "price(1, 2, 0): the way by 1");
     due(x.price(1, 2, 3), 0, "price(1, 2, 3): the way by 4");
     due(x.price(4, 1, 0), 0, "price(4, 1, 0) of 999");
-    // The doctor (stride 1) goes by the least row from 98, 1 3, not by 2 0 (which is less from 99) and so leaves 0 its all.
-    BearsTwo tie = Told.of("river wide 3 long 9;stone at 8 2 bears 1;stone at 0 1 bears 9;stone at 8 1 bears 9;stone at 0 2 bears 9;");
-    due(tie.price(1, 1, 0), 1, "price by 1 3");
-    due(tie.late(1, 0), 10, "ten in all");
+    // The doctor goes by the least row from 98, 0 5, which others can't go by; from 99 the least would be 3 2.
+    BearsTwo tie = Told.of("river wide 5 long 9;stone at 8 2 bears 1;stone at 0 1 bears 1;stone at 0 2 bears 1;stone at 0 3 bears 1;"
+        + "stone at 0 4 bears 1;stone at 8 3 bears 1;");
+    due(tie.most(1, 1), 1, "one by the column");
+    due(tie.price(1, 2, 0), 0, "price by 0 5");
+    due(tie.price(1, 1, 0), 1, "price by the column");
     due(x.price(1, 4, 0), 0, "price(1, 4, 0): no STONE is kept");
     int[][] wrongOnes = {{0, 1, 0}, {10, 1, 0}, {1, 0, 0}, {1, 10, 0}, {1, 1, 4}, {1, 1, -1}};
     for (int[] w : wrongOnes) due(x.price(w[0], w[1], w[2]), -2, "price of none such");
@@ -1141,6 +1175,9 @@ public final class PromisesTest {
     due(x.stone(0, 3), 0, "all stays");
     x.know(0, false);
     due(x.run(0, 0), 3, "nothing to draw");
+    String one = "river wide 2 long 1;stone at 0 1 bears 2 doubt 38;" + people(2, "person stride 1 weight 1 worth 1;");
+    due(Told.of(one).run(1, 0), 2, "a draw of 38 is not below 38");
+    due(Told.of(one.replace("38", "39")).run(1, 0), 1, "but below 39");
     // 38 and 58: the first bears one, the second as told; then (known) 38 for the second.
     String two = "river wide 2 long 5;stone at 0 1 bears 2 doubt 40;stone at 4 1 bears 2 doubt 40;"
         + people(4, "person stride 1 weight 1 worth 1;");

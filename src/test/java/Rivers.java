@@ -74,6 +74,19 @@ final class Rivers {
     return text + (one(2) ? "plank " + in(1, 3) + ";" : "");
   }
 
+  /** A broad river full of stones that bear little, where rows that were taken first must often give way. */
+  String deep() {
+    int wide = in(5, 9), len = in(3, 6), stones = 0;
+    StringBuilder text = new StringBuilder("river wide " + wide + " long " + len + ";plank " + in(1, 4) + ";");
+    for (int y = 1; y < wide; y++)
+      for (int x = 0; x < len; x++) {
+        if (one(3) || stones == 24) continue;
+        text.append("stone at " + x + " " + y + " bears " + in(1, one(3) ? 5 : 2) + ";");
+        stones++;
+      }
+    return text.toString();
+  }
+
   private String blank(boolean needed) {
     if (one(20)) return " \n ";
     return needed ? one(20) ? "\n" : " " : one(20) ? " " : "";
