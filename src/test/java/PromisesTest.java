@@ -396,9 +396,31 @@ public final class PromisesTest {
     for (int[] w : wrongOnes) due(x.path(w[0], w[1], w[2], 0), -2, "path of none such");
     due(x.path(1, 2, 0, 0), -1, "path where there is no WAY");
     minds();
+    snake();
     // Of equal sums and counts the least row, from where one begins.
     BearsTwo tie = Told.of("river wide 3 long 4;stone at 3 2 bears 1;stone at 0 2 bears 1;stone at 0 1 bears 1;stone at 3 1 bears 1;");
     rowIs(tie, 1, 1, 0, 2, 1);
+  }
+
+  /** A row of all 24: up one, along 13, up 9, told from its end. */
+  private static void snake() {
+    StringBuilder text = new StringBuilder("river wide 12 long 20;");
+    for (int y = 11; y >= 3; y--) text.append("stone at 13 ").append(y).append(" bears 2;");
+    for (int x = 13; x >= 0; x--) text.append("stone at ").append(x).append(" 2 bears 2;");
+    text.append("stone at 0 1 bears 2;person stride 1 weight 1 worth 1 back;");
+    BearsTwo x = Told.of(text.toString());
+    int[] row = new int[24];
+    for (int i = 0; i < 24; i++) row[i] = 23 - i;
+    for (int way = 0; way < 4; way++) rowIs(x, 1, 2, way, row);
+    due(x.reach(1), (1 << 24) - 1, "reach(1)");
+    due(x.most(1, 1), 2, "most(1, 1)");
+    due(x.cut(1, 1), 1 << 23, "cut(1, 1)");
+    due(x.bars(12, 1, 1), 2, "bars(12, 1, 1)");
+    due(x.alike(1, 1, 1), 2, "alike(1, 1, 1)");
+    due(x.home(2), 1, "home(2)");
+    due(x.sure(1, 2), 1000000000L, "sure(1, 2)");
+    due(x.go(0, 3), 24, "go(0, 3)");
+    due(x.fresh(), 24, "fresh()");
   }
 
   /** What each of the four minds looks at. */
