@@ -16,8 +16,6 @@ public final class BearsTwo {
 
     private static final int NEAR = 98;
     private static final int FAR = 99;
-    /** Where one who went in is: no PLACE of the document, so that nobody finds him. */
-    private static final int IN_WATER = 97;
 
     private static final int STONES = 24;
     private static final int PEOPLE = 8;
@@ -1375,6 +1373,7 @@ public final class BearsTwo {
             return people;
         }
 
+        /** Whether the UNIT gets over. One that goes in stays where it was: a day is in thought, and it has gone once. */
         private boolean wade(Scene scene, int unit, int way, int ones) {
             int weight = scene.told.weightOf(unit);
             int size = ways.seek(scene, scene.told.strideOf(unit), weight, way, NEAR);
@@ -1385,7 +1384,6 @@ public final class BearsTwo {
                 int s = ways.row[i];
                 if ((ones >> s & 1) != 0 && scene.borne[s] + weight > 1) {
                     scene.borne[s] = scene.told.bears[s];
-                    scene.settle(unit, IN_WATER);
                     return false;
                 }
                 scene.borne[s] += weight;

@@ -73,7 +73,7 @@ public final class CrossCheckTest {
     while (calls < 410) {
       if (calls == 0 || one(60)) {
         if (one(3)) tell(one(5) ? rivers.crowded() : rivers.faulty(size, in(0, 6)));
-        tell(one(2) ? rivers.tight(in(1, 8)) : rivers.sound(in(0, size), in(0, 8)));
+        tell(size == 24 && one(2) ? rivers.full() : one(2) ? rivers.tight(in(1, 8)) : rivers.sound(in(0, size), in(0, 8)));
         if (one(2)) due("row(0, 1, 7)", x.row(0, 1, 7), m.row(0, 1, 7));
         if (one(2)) due("row(3, 1, 10)", x.row(3, 1, 10), m.row(3, 1, 10));
       }
@@ -86,8 +86,8 @@ public final class CrossCheckTest {
   }
 
   /** Flows alone, where they are hardest. */
-  private void runDeep() {
-    tell(rivers.deep());
+  private void runDeep(String text) {
+    tell(text);
     for (int a = 1; a <= 3; a++) {
       int n = m.w.stones.size();
       for (int weight = 1; weight <= 2; weight++) {
@@ -207,7 +207,7 @@ public final class CrossCheckTest {
       CrossCheckTest test = new CrossCheckTest(seed, sizes[seed % sizes.length]);
       test.run();
       CrossCheckTest deep = new CrossCheckTest(seed, 24);
-      deep.runDeep();
+      deep.runDeep(seed < Rivers.hardOnes() ? Rivers.hard(seed) : deep.rivers.deep());
       all += test.calls + deep.calls;
     }
     System.out.println(wrong == 0 ? all + " answers are as the model's" : wrong + " answers are not as the model's");

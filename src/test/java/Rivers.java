@@ -8,6 +8,26 @@ import java.util.Set;
 final class Rivers {
   private final Random random;
 
+  /** Rivers, found by search, in which one who went by three STONES has to give way on all three and the middle one is used again. */
+  private static final String[] HARD = {
+      "7 6; 3 5 1; 3 3 1; 0 2 2; 0 1 3; 1 5 2; 0 3 3; 4 2 1; 2 4 1; 3 6 2; 1 1 1; 5 5 3; 4 3 1; 1 4 3; 4 6 3; 1 3 3; 5 6 2; 5 3 2; 4 1 3; 3 4 1; 1 2 2; 5 4 3; 2 5 2; 0 6 2; 5 2 1",
+      "10 12; 2 1 2; 4 4 1; 5 4 2; 3 9 1; 1 4 3; 0 4 1; 7 3 1; 1 5 2; 9 5 3; 3 2 2; 2 8 1; 10 4 2; 10 1 2; 10 3 1; 11 8 1; 0 7 3; 0 6 2; 11 1 1; 9 2 3; 11 3 3; 6 5 3; 4 7 3; 5 6 2; 11 9 2",
+      "10 11; 2 6 1; 9 3 2; 2 3 3; 10 6 2; 3 7 3; 6 2 1; 9 5 2; 1 1 2; 10 5 2; 2 5 2; 9 8 3; 0 3 2; 5 2 1; 10 3 1; 6 4 1; 0 2 2; 4 8 1; 7 3 2; 4 5 1; 9 6 3; 3 1 1; 6 5 1; 4 7 2; 8 4 2",
+      "9 9; 8 7 3; 6 2 3; 0 6 2; 2 8 1; 8 6 2; 3 5 3; 1 2 3; 4 4 1; 7 4 1; 1 3 2; 8 4 2; 0 2 2; 0 1 3; 4 7 1; 1 5 3; 5 4 3; 6 4 1; 3 3 1; 7 1 1; 1 4 3; 5 1 3; 3 7 3",
+      "7 5; 4 3 2; 4 1 2; 1 2 2; 2 4 1; 0 2 2; 4 6 2; 4 4 2; 2 2 1; 1 1 3; 3 3 3; 3 2 3; 0 5 1; 2 1 3; 0 4 3; 0 3 2; 1 6 1; 1 5 1; 4 5 2; 3 6 1; 2 6 2; 3 5 2; 1 4 1; 2 3 1"};
+
+  static int hardOnes() { return HARD.length; }
+
+  /** Each LINE's numbers: wide and long, then X, Y and what it bears. */
+  static String hard(int k) {
+    StringBuilder text = new StringBuilder();
+    for (String line : HARD[k].split("; ")) {
+      String[] n = line.split(" ");
+      text.append(n.length == 2 ? "river wide " + n[0] + " long " + n[1] + ";plank 3;" : "stone at " + n[0] + " " + n[1] + " bears " + n[2] + ";");
+    }
+    return text.toString();
+  }
+
   Rivers(Random random) { this.random = random; }
 
   private int in(int low, int high) { return low + random.nextInt(high - low + 1); }
@@ -72,6 +92,29 @@ final class Rivers {
       text.append(";");
     }
     return text + (one(2) ? "plank " + in(1, 3) + ";" : "");
+  }
+
+  /** As much as a RIVER may have: 24 stones, four in doubt, eight people, a plank. */
+  String full() {
+    int wide = in(3, 6), len = in(12, 20), doubts = 0;
+    List<Integer> places = new ArrayList<>();
+    for (int y = 1; y < wide; y++) for (int x = 0; x < len; x++) places.add(100 * y + x);
+    java.util.Collections.shuffle(places, random);
+    StringBuilder text = new StringBuilder("river wide " + wide + " long " + len + ";");
+    for (int k = 0; k < 24; k++) {
+      text.append("stone at " + places.get(k) % 100 + " " + places.get(k) / 100 + " bears " + in(1, 9));
+      if (one(8)) text.append(" sinks " + in(1, 23));
+      if (doubts < 4 && (k >= 20 || one(4))) {
+        text.append(" doubt " + in(1, 99));
+        doubts++;
+      }
+      text.append(";");
+    }
+    for (int p = 0; p < 8; p++) {
+      text.append("person stride " + in(1, 3) + " weight " + in(1, 3) + " worth " + in(0, 99) + (one(3) ? " must" : "") + (one(2) ? " back" : ""));
+      text.append(p % 2 == 1 && one(2) ? " hand " + (p - 1) + ";" : ";");
+    }
+    return text + "plank " + in(1, 4) + ";";
   }
 
   /** A broad river full of stones that bear little, where rows that were taken first must often give way. */
