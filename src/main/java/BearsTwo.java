@@ -1751,7 +1751,7 @@ public final class BearsTwo {
             net.left = 0;
             queued = 0;
             enter(net.near, BANK);
-            for (int k = 0; k < queued; k++) {
+            for (int k = 0; k < queued && k < queue.length; k++) {
                 int s = queue[k] & EXIT - 1;
                 if (queue[k] < EXIT) {
                     if (net.through[s] < net.bears[s]) {

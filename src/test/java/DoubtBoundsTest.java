@@ -256,6 +256,10 @@ public final class DoubtBoundsTest {
         }
       B.due("run(" + seed + ", 0) of four in doubt", x.run(seed, 0), over);
     }
+    StringBuilder full = new StringBuilder("river wide 3 long 20;");
+    for (int k = 0; k < 24; k++) full.append("stone at " + k % 20 + " " + (1 + k / 20) + " bears " + (k < 23 ? "1;" : "9 doubt 50;"));
+    for (int seed = 0; seed < 20; seed++)
+      B.due("run(" + seed + ", 0) of 24, the last one in doubt", Told.of(full + "person stride 2 weight 2 worth 1;").run(seed, 0), draw(seed, 0) < 50 ? 0 : 1);
     BearsTwo known = Told.of("river wide 2 long 9;stone at 0 1 bears 2 doubt 50;stone at 8 1 bears 2 doubt 50;" + ONE.repeat(4));
     known.know(0, false);
     for (int seed = 0; seed < 20; seed++) B.due("run(" + seed + ", 0): the first draw is for the second STONE", known.run(seed, 0), draw(seed, 0) < 50 ? 3 : 4);

@@ -111,6 +111,11 @@ public final class FlowBoundsTest {
       B.due("where(9, 5) behind where(9, " + stride + ")", x.where(9, 5), 101);
       B.due("moved(0, 1, 4)", x.moved(0, 1, 4), 999);
     }
+    BearsTwo first = Told.of("river wide 4 long 2;stone at 0 2 bears 9;stone at 0 3 bears 9;");
+    for (int stride = 1; stride < 4; stride++) {
+      first.most(stride, 1);
+      B.due("where(1, 4) behind most(" + stride + ", 1)", first.where(1, 4), 100);
+    }
     B.due("where(9, 1)", x.where(9, 1), 204);
     B.due("where(1, 1): the first of two", x.where(1, 1), 200);
     B.due("planks(1)", x.planks(1), 203);
