@@ -207,7 +207,24 @@ public final class FlowBoundsTest {
     for (int k = 0; k < 24; k++) full.append("stone at ").append(k % 20).append(' ').append(1 + k / 20).append(" bears 1;");
     B.due("more of a 25th STONE", Told.of(full.toString()).more(19, 2, 9, 2), 33);
     B.due("where of a 25th STONE", Told.of(full.toString()).where(9, 2), 204);
+    // All 25 in one row, wherever the one is that is not there yet; where one comes from this bank to what is behind the gap, that is ahead of it.
+    int[] gaps = {0, 1, 7, 15, 16, 24};
+    for (int gap : gaps) {
+      StringBuilder row = new StringBuilder("river wide 12 long 20;");
+      for (int k = 24; k >= 0; k--)
+        if (k != gap) row.append("stone at " + snakeX(k) + " " + snakeY(k) + " bears 2;");
+      BearsTwo y = Told.of(row.toString());
+      B.due("most(1, 1) of a row with a gap", y.most(1, 1), 0);
+      B.due("more(.., 9, 1) in the gap", y.more(snakeX(gap), snakeY(gap), 9, 1), 2);
+      B.due("more(.., 1, 1) in the gap", y.more(snakeX(gap), snakeY(gap), 1, 1), 1);
+      B.due("where(1, 1)", y.where(1, 1), gap > 0 && gap < 15 ? 100 + snakeX(gap + 1) : snakeX(gap) + 100 * snakeY(gap));
+    }
   }
+
+  /** The places of a row of 25: up one, along to 14, up to the far bank. */
+  private static int snakeX(int k) { return k == 0 ? 0 : Math.min(k - 1, 14); }
+
+  private static int snakeY(int k) { return k == 0 ? 1 : k < 16 ? 2 : k - 13; }
 
   private static void where() {
     B.says("where: the first of several by Y, then X: X and 100 Y");
