@@ -80,7 +80,16 @@ public final class LanguageTest {
     while (classes.find()) count++;
     due(count <= 12, count + " classes");
     for (char c : source.toCharArray()) due(c == '\n' || c >= 32 && c < 127, "a sign that is none of 1 to 127: " + (int) c);
+    library(bare);
     methods(code);
+  }
+
+  /** Only what rule 4 lists is called of the library. */
+  private static void library(String bare) {
+    Set<String> allowed = Set.of("Math.min", "Math.max", "Integer.bitCount", "Integer.numberOfTrailingZeros", "System.arraycopy", "Arrays.fill");
+    Matcher calls = Pattern.compile("\\b(Math|Integer|Long|System|Arrays|String|Character|Short|Byte|Boolean|Object)\\.(\\w+)").matcher(bare);
+    while (calls.find()) due(allowed.contains(calls.group()), "of the library: " + calls.group());
+    due(!Pattern.compile("\\.(equals|hashCode|toString|getClass|wait|notify)\\(").matcher(bare).find(), "a method of Object");
   }
 
   /** Methods of some sixty lines at the most, and nothing made in one that is no constructor. */
