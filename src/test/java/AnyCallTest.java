@@ -8,7 +8,8 @@ import java.util.List;
 import java.util.Random;
 
 /**
- * Any call with any arguments in any state: none throws, and the same calls give the same answers on another object.
+ * Drawn calls with arguments at every edge and far beyond, in whatever state they come to: none throws, and the same calls
+ * give the same answers on another object.
  */
 public final class AnyCallTest {
   /** Texts take calls too, so an object is left well before its 512th. */
